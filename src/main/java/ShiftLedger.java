@@ -1,5 +1,3 @@
-import java.util.Arrays;
-
 /**
  * A ledger of shifts. The words in capitals are those of the document.
  *
@@ -20,6 +18,8 @@ public final class ShiftLedger {
     private static final int MOST_WORKERS = 30;
     private static final int MOST_MARKS_OF_ONE = 400;
     private static final int MOST_MARKS_OF_ALL = 1000;
+    /** PARTS and RESTS are fewer than MARKS; each SHIFT, of two MARKS at least, is cut twice, the day five times. */
+    private static final int MOST_SPANS = 2 * MOST_MARKS_OF_ONE + 5;
     private static final int MOST_RATES = 60;
     private static final int MOST_SURCHARGES = 12;
     private static final int MOST_ABSENCES = 20;
@@ -283,7 +283,7 @@ public final class ShiftLedger {
             return NONE;
         }
         fillSheet(its, day);
-        return sheet.classes[minute];
+        return sheet.classAt(minute);
     }
 
     public int minutes(int w, int day, int sort) {
@@ -314,7 +314,7 @@ public final class ShiftLedger {
             return NONE;
         }
         fillSheet(its, day);
-        if (sheet.classes[minute] < OVERTIME) {
+        if (sheet.classAt(minute) < OVERTIME) {
             return 0;
         }
         int met = surcharges.meeting(kindOf(its.group, day), minute % DAY_MINUTES);
@@ -522,18 +522,12 @@ public final class ShiftLedger {
 
     private long payOfSheet(Group group, int day) {
         int kind = kindOf(group, day);
-        int overtimeExtra = rules[kind].b[OVER];
         long shares = 0;
-        int metBefore = 0;
-        int extra = 0;
-        for (int m = sheet.low; m < sheet.high; m++) {
-            if (sheet.classes[m] >= OVERTIME) {
-                int met = surcharges.meeting(kind, m % DAY_MINUTES);
-                if (met != metBefore) {
-                    extra = surcharges.extraOf(surcharges.countingOf(met));
-                    metBefore = met;
-                }
-                shares += WHOLE + extra + (sheet.classes[m] == OVERTIME ? overtimeExtra : 0);
+        for (int i = 0; i < sheet.size; i++) {
+            if (sheet.classes[i] >= OVERTIME) {
+                long each = WHOLE + (sheet.classes[i] == OVERTIME ? rules[kind].b[OVER] : 0);
+                shares += each * (sheet.to[i] - sheet.from[i]);
+                shares += surcharges.extraOver(kind, sheet.from[i], sheet.to[i]);
             }
         }
         return toCents(shares * rates.at(group.number, day));
@@ -709,6 +703,33 @@ public final class ShiftLedger {
             return false;
         }
 
+        /** The p of those that COUNT, for each MINUTE from one to ahead of another, all added. */
+        long extraOver(int kind, int first, int end) {
+            long extra = 0;
+            int next = first;
+            for (int m = first; m < end; m = next) {
+                int minuteOfDay = m % DAY_MINUTES;
+                next = Math.min(end, m + Math.max(1, steadyFrom(minuteOfDay)));
+                long each = extraOf(countingOf(meeting(kind, minuteOfDay)));
+                extra += each * (next - m);
+            }
+            return extra;
+        }
+
+        /** For how long, from a minute on, no SURCHARGE begins or ends. */
+        int steadyFrom(int minuteOfDay) {
+            int steady = DAY_MINUTES;
+            for (int s = 0; s < size; s++) {
+                steady = Math.min(steady, wayTo(from[s], minuteOfDay));
+                steady = Math.min(steady, wayTo(to[s], minuteOfDay));
+            }
+            return steady;
+        }
+
+        static int wayTo(int then, int now) {
+            return then > now ? then - now : then - now + DAY_MINUTES;
+        }
+
         int extraOf(int counting) {
             int extra = 0;
             for (int s = 0; s < size; s++) {
@@ -836,6 +857,20 @@ public final class ShiftLedger {
             return sort == BACK ? IN : PAUSED;
         }
 
+        /** The place of the END of a SHIFT that ends: its GO, or the PAUSE that the GO follows. */
+        int endOf(int come) {
+            int last = come;
+            for (int k = come + 1; k < size; k++) {
+                if (roles[k] == ENDS) {
+                    return sorts[last] == PAUSE ? last : k;
+                }
+                if (roles[k] == BETWEEN) {
+                    last = k;
+                }
+            }
+            return last;
+        }
+
         /** How many MARKS play a role on the days from one to ahead of another. */
         int amountOf(int role, int from, int to) {
             int amount = 0;
@@ -848,119 +883,133 @@ public final class ShiftLedger {
         }
     }
 
-    /** The CLASSES of the MINUTES of one day; all that are not NOTHING are from low to ahead of high. */
+    /** The MINUTES of one day as spans of one CLASS each, by time; those in no span are of CLASS 0. */
     private static final class Sheet {
-        final byte[] classes = new byte[SHEET_MINUTES];
-        int low = SHEET_MINUTES;
-        int high;
+        final int[] from = new int[MOST_SPANS];
+        final int[] to = new int[MOST_SPANS];
+        final int[] classes = new int[MOST_SPANS];
+        int size;
 
         /** Fills the sheet with a day, whose MARKS begin with the k-th. */
         void fill(Marks marks, int k, int day, Rules rules) {
-            clear();
+            size = 0;
             int begin = timeOf(day, 0);
             for (int i = k; i < marks.size && marks.times[i] - begin < DAY_MINUTES; i++) {
                 if (marks.roles[i] == BEGINS_ENDED) {
-                    layShift(marks, i, begin, rules.a[ROUND]);
+                    int first = size;
+                    layShift(marks, i, begin);
+                    applyRound(first, rules.a[ROUND]);
                 }
             }
-            applyFrame(rules.a[FRAME], rules.b[FRAME]);
-            applyOwed(rules.a[OWED], rules.b[OWED]);
-            turnBehind(rules.a[MOST], BY_MOST);
-            turnBehind(rules.a[OVER], OVERTIME);
-        }
-
-        void clear() {
-            if (low < high) {
-                Arrays.fill(classes, low, high, (byte) NOTHING);
+            if (rules.b[FRAME] > 0) {
+                takeOutside(rules.a[FRAME], rules.b[FRAME], 0, BY_FRAME);
             }
-            low = SHEET_MINUTES;
-            high = 0;
+            int there = amountOf(THERE, THERE);
+            int missing = rules.b[OWED] - amountOf(REST, REST);
+            if (missing > 0 && there > rules.a[OWED]) {
+                turnBehind(there - missing, BY_OWED);
+            }
+            if (rules.a[MOST] > 0) {
+                turnBehind(rules.a[MOST], BY_MOST);
+            }
+            if (rules.a[OVER] > 0) {
+                turnBehind(rules.a[OVER], OVERTIME);
+            }
         }
 
-        void layShift(Marks marks, int come, int begin, int step) {
+        /** PARTS and RESTS take turns, from the COME to the END, and always a PART is the last. */
+        void layShift(Marks marks, int come, int begin) {
+            int end = marks.endOf(come);
             boolean resting = false;
             int since = marks.times[come] - begin;
-            boolean ended = false;
-            for (int i = come + 1; i < marks.size && !ended; i++) {
-                int role = marks.roles[i];
-                ended = role == ENDS;
-                // From a PAUSE to the GO there is neither PART nor REST, and the PAUSE stays the END.
-                if (role != DOUBLE && !(ended && resting)) {
+            for (int i = come + 1; i <= end && i < marks.size; i++) {
+                if (marks.roles[i] != DOUBLE) {
                     int at = marks.times[i] - begin;
-                    lay(since, at, resting ? REST : THERE);
+                    add(since, at, resting ? REST : THERE);
                     resting = !resting;
                     since = at;
                 }
             }
-            applyRound(marks.times[come] - begin, since, step);
         }
 
-        void lay(int from, int to, int itsClass) {
-            low = Math.max(0, Math.min(low, from));
-            high = Math.min(SHEET_MINUTES, Math.max(high, to));
-            for (int m = Math.max(0, from); m < to && m < SHEET_MINUTES; m++) {
-                classes[m] = (byte) itsClass;
+        void add(int itsFrom, int itsTo, int itsClass) {
+            if (size < MOST_SPANS) {
+                from[size] = itsFrom;
+                to[size] = itsTo;
+                classes[size] = itsClass;
+                size++;
             }
         }
 
-        void applyRound(int come, int end, int step) {
-            if (step <= 1) {
-                return;
+        /** Rounds the SHIFT whose spans are the latest ones, from the first of them on. */
+        void applyRound(int first, int step) {
+            if (step > 1 && first < size) {
+                int come = (from[first] + step - 1) / step * step;
+                int end = to[size - 1] / step * step;
+                takeOutside(come, end, from[first], BY_ROUND);
             }
-            int from = (come + step - 1) / step * step;
-            int to = end / step * step;
-            for (int m = Math.max(0, come); m < end && m < SHEET_MINUTES; m++) {
-                if (classes[m] == THERE && (m < from || m >= to)) {
-                    classes[m] = BY_ROUND;
+        }
+
+        /** Of what is there since a minute, all below the lowest one and all from the end on gets a CLASS. */
+        void takeOutside(int lowest, int end, int since, int itsClass) {
+            cutAt(lowest);
+            cutAt(end);
+            for (int i = 0; i < size; i++) {
+                if (classes[i] == THERE && from[i] >= since && (from[i] < lowest || from[i] >= end)) {
+                    classes[i] = itsClass;
                 }
             }
         }
 
-        void applyFrame(int from, int to) {
-            if (to <= 0) {
-                return;
-            }
-            for (int m = low; m < high; m++) {
-                if (classes[m] == THERE && (m < from || m >= to)) {
-                    classes[m] = BY_FRAME;
-                }
-            }
-        }
-
-        void applyOwed(int above, int owed) {
-            int left = owed - amountOf(REST, REST);
-            if (left <= 0 || amountOf(THERE, THERE) <= above) {
-                return;
-            }
-            for (int m = high - 1; m >= low && left > 0; m--) {
-                if (classes[m] == THERE) {
-                    classes[m] = BY_OWED;
-                    left--;
-                }
-            }
-        }
-
-        /** MOST and OVER do the same: all behind the first ones get another CLASS. */
+        /** Of what is there, all behind the first ones gets a CLASS. */
         void turnBehind(int firstOnes, int itsClass) {
-            if (firstOnes <= 0) {
-                return;
-            }
-            int met = 0;
-            for (int m = low; m < high; m++) {
-                if (classes[m] == THERE) {
-                    met++;
-                    if (met > firstOnes) {
-                        classes[m] = (byte) itsClass;
+            int left = Math.max(0, firstOnes);
+            for (int i = 0; i < size; i++) {
+                if (classes[i] == THERE) {
+                    if (left == 0) {
+                        classes[i] = itsClass;
+                    } else if (to[i] - from[i] > left) {
+                        // What is cut off is the next span, and has no one left ahead of it.
+                        cutAt(from[i] + left);
+                        left = 0;
+                    } else {
+                        left -= to[i] - from[i];
                     }
                 }
             }
         }
 
+        /** Makes two spans of the one that goes over a minute's beginning, if there is such a one. */
+        void cutAt(int minute) {
+            int i = 0;
+            while (i < size && to[i] <= minute) {
+                i++;
+            }
+            if (i < size && from[i] < minute && size < MOST_SPANS) {
+                System.arraycopy(from, i, from, i + 1, size - i);
+                System.arraycopy(to, i, to, i + 1, size - i);
+                System.arraycopy(classes, i, classes, i + 1, size - i);
+                to[i] = minute;
+                from[i + 1] = minute;
+                size++;
+            }
+        }
+
+        int classAt(int minute) {
+            for (int i = 0; i < size; i++) {
+                if (minute >= from[i] && minute < to[i]) {
+                    return classes[i];
+                }
+            }
+            return NOTHING;
+        }
+
+        /** How many MINUTES have a CLASS from the lowest to the highest. */
         int amountOf(int lowest, int highest) {
             int amount = 0;
-            for (int m = low; m < high; m++) {
-                if (classes[m] >= lowest && classes[m] <= highest) {
-                    amount++;
+            for (int i = 0; i < size; i++) {
+                if (classes[i] >= lowest && classes[i] <= highest) {
+                    amount += to[i] - from[i];
                 }
             }
             return amount;
