@@ -189,6 +189,11 @@ public final class DaysTest {
         amounts("a minute", x, 1, 0, 0, 99);
         x.rule(0, FRAME, 199, 2880);
         amounts("a minute", x, 1, 0, 0, 99);
+        ShiftLedger early = with(0, COME, 10, GO);
+        early.rule(0, FRAME, 2, 10);
+        amounts("from minute 0 on", early, 8, 0, 0, 2);
+        early.rule(0, FRAME, 0, 1);
+        amounts("minute 0 alone", early, 1, 0, 0, 9);
         ShiftLedger rest = with(100, COME, 120, PAUSE, 140, BACK, 160, GO);
         rest.rule(0, FRAME, 130, 135);
         classes("rests stay", rest, 120, 140, 1);
