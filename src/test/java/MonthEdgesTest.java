@@ -205,6 +205,11 @@ public final class MonthEdgesTest {
         for (int group = 0; group < 6; group++) x.limits(group, group, group + 1);
         x.close();
         for (int group = 0; group < 6; group++) due("26: group " + group, x.month(group, 0, FLEX), group);
+        ShiftLedger later = new ShiftLedger();
+        later.worker(0, 100);
+        later.limits(0, 5, 10);
+        later.close();
+        due("26: LOW ahead of the first day", later.month(0, 0, FLEX), 5);
     }
 
     private static void uncutWhileOpen() {

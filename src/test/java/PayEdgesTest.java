@@ -377,6 +377,13 @@ public final class PayEdgesTest {
         due("22: behind midnight, too", night.cents(0, 0), 230);
         night.surcharge(1, 1439, 1, 3000);
         due("22: over midnight, too", night.cents(0, 0), 290);
+        night.kind(0, 1, 1);
+        night.surcharge(2, 0, 0, 5000);
+        night.rule(1, OVER, 1, 5000);
+        due("22: the next day's kind does not matter", night.cents(0, 0), 290);
+        night.kind(0, 0, 1);
+        night.kind(0, 1, 0);
+        due("22: that of the day it began does", night.cents(0, 0), 350);
         ShiftLedger both = longDay(100, 200);
         both.rate(0, 0, 6000);
         due("22: on both days", both.cents(0, 0), 192000 + 10 * 200 / 100);

@@ -40,6 +40,7 @@ public final class RuleEdgesTest {
         toldAgain();
         stepsAndClasses();
         otherDaysAndWorkers();
+        theMostCutDay();
         System.out.println(wrong == 0 ? "all answers are as due" : wrong + " answers are not as due");
         if (wrong != 0) System.exit(1);
     }
@@ -405,5 +406,35 @@ public final class RuleEdgesTest {
         due("18: the next day's shift is none of this day", x.minute(0, 0, 1540), 0);
         due("18: it is of its own", x.minute(0, 1, 100), 7);
         due("18: this day's shift is none of the next", x.minute(0, 1, 199), 0);
+    }
+
+    /** 400 marks of one day, each shift cut at both its ends, and the day by all rules. */
+    private static void theMostCutDay() {
+        ShiftLedger x = new ShiftLedger();
+        x.worker(0, 0);
+        for (int j = 0; j < 144; j++) {
+            x.mark(0, 0, 10 * j + 4, 0);
+            x.mark(0, (10 * j + 11) / 1440, (10 * j + 11) % 1440, 1);
+            if (j % 2 == 1 && j < 112) {
+                x.mark(0, 0, 10 * j + 6, 2);
+                x.mark(0, 0, 10 * j + 8, 3);
+            }
+        }
+        due("28: marks", x.count(4), 400);
+        due("17: shifts", x.shifts(0, 0, 0), 144);
+        x.rule(0, ROUND, 5, 0);
+        x.rule(0, FRAME, 7, 1437);
+        x.rule(0, OWED, 602, 116);
+        x.rule(0, MOST, 500, 0);
+        x.rule(0, OVER, 400, 0);
+        int[] steps = {144 * 7 - 112, 144 * 5 - 112, 603, 599, 500};
+        for (int step = 0; step <= 4; step++) due("20: the most cut day, step " + step, x.why(0, 0, step), steps[step]);
+        int[] amounts = {500, 112, 288, 5, 4, 99, 100, 400};
+        for (int c = 0; c <= 7; c++) due("19: the most cut day, class " + c, x.minutes(0, 0, c), amounts[c]);
+        int[][] want = {{4, 2}, {5, 3}, {7, 7}, {10, 2}, {15, 7}, {16, 1}, {18, 7}, {20, 2}, {1427, 5}, {1428, 4},
+            {1430, 2}, {1435, 4}, {1436, 4}, {1437, 3}, {1439, 3}, {1440, 2}, {1441, 0}};
+        for (int[] a : want) due("18: the most cut day, minute " + a[0], x.minute(0, 0, a[0]), a[1]);
+        x.rate(0, 0, 60);
+        due("22: the most cut day", x.cents(0, 0), 500);
     }
 }

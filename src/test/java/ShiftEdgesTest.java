@@ -245,11 +245,10 @@ public final class ShiftEdgesTest {
         due("17: all end", x.shifts(0, 1095, 0), 200);
         due("17: no gap", x.shifts(0, 1095, 1), 0);
         due("19: five minutes more", x.minutes(0, 1095, 0), 398 + 801 - 796);
-        fourHundredRounded(x);
+        fourHundredByRules(x);
     }
 
-    /** Each of 200 shifts is cut at both its ends, and the day by all rules: the most that a day can be cut into. */
-    private static void fourHundredRounded(ShiftLedger x) {
+    private static void fourHundredByRules(ShiftLedger x) {
         x.rule(0, 0, 5, 0);
         // Two minutes from a multiple of 4 on hold none of 5 rounded up and down; the last one is 796 to 801.
         due("20: round", x.why(0, 1095, 1), 0);
