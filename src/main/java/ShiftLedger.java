@@ -575,11 +575,10 @@ public final class ShiftLedger {
     }
 
     private void keepSayings(Worker worker, int m) {
-        long paid = sayingOf(worker, m, PAID);
-        long cents = sayingOf(worker, m, CENTS);
         long flex = openFlex(worker, m);
-        worker.said[PAID][m] = paid;
-        worker.said[CENTS][m] = cents;
+        tallyDays(worker, MONTH_STARTS[m], MONTH_STARTS[m + 1]);
+        worker.said[PAID][m] = tally.paid + worker.said[BOOKED_MINUTES][m];
+        worker.said[CENTS][m] = tally.cents + worker.said[BOOKED_CENTS][m];
         worker.said[FLEX][m] = Math.max(worker.group.low, Math.min(worker.group.high, flex));
     }
 
@@ -894,11 +893,16 @@ public final class ShiftLedger {
         void fill(Marks marks, int k, int day, Rules rules) {
             size = 0;
             int begin = timeOf(day, 0);
+            int step = rules.a[ROUND];
             for (int i = k; i < marks.size && marks.times[i] - begin < DAY_MINUTES; i++) {
                 if (marks.roles[i] == BEGINS_ENDED) {
                     int first = size;
                     layShift(marks, i, begin);
-                    applyRound(first, rules.a[ROUND]);
+                    if (step > 1 && first < size) {
+                        int come = (from[first] + step - 1) / step * step;
+                        int end = to[size - 1] / step * step;
+                        takeOutside(come, end, from[first], BY_ROUND);
+                    }
                 }
             }
             if (rules.b[FRAME] > 0) {
@@ -938,15 +942,6 @@ public final class ShiftLedger {
                 to[size] = itsTo;
                 classes[size] = itsClass;
                 size++;
-            }
-        }
-
-        /** Rounds the SHIFT whose spans are the latest ones, from the first of them on. */
-        void applyRound(int first, int step) {
-            if (step > 1 && first < size) {
-                int come = (from[first] + step - 1) / step * step;
-                int end = to[size - 1] / step * step;
-                takeOutside(come, end, from[first], BY_ROUND);
             }
         }
 

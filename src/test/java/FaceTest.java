@@ -7,7 +7,9 @@ import java.lang.reflect.Modifier;
 import java.nio.file.Files;
 import java.nio.file.Path;
 import java.util.Arrays;
+import java.util.Map;
 import java.util.Set;
+import java.util.TreeMap;
 import java.util.TreeSet;
 import java.util.regex.Matcher;
 import java.util.regex.Pattern;
@@ -36,6 +38,7 @@ public final class FaceTest {
         members();
         classesInside();
         source();
+        callsAndLengths();
         room();
         System.out.println(wrong == 0 ? "the face is as due" : wrong + " things are not as due");
         if (wrong != 0) System.exit(1);
@@ -94,9 +97,13 @@ public final class FaceTest {
         }
     }
 
-    private static void source() throws IOException {
+    private static String codeOfSource() throws IOException {
         String text = Files.readString(Path.of(SOURCE));
-        String code = text.replaceAll("(?s)/\\*.*?\\*/", " ").replaceAll("//[^\n]*", " ");
+        return text.replaceAll("(?s)/\\*.*?\\*/", " ").replaceAll("//[^\n]*", " ");
+    }
+
+    private static void source() throws IOException {
+        String code = codeOfSource();
         String[] banned = {"throw", "throws", "try", "catch", "synchronized", "assert", "package", "hashCode", "System\\.out",
             "\\w+Exact", "volatile", "native", "protected"};
         for (String word : banned) {
@@ -110,6 +117,49 @@ public final class FaceTest {
         Matcher brought = Pattern.compile("\\bimport\\s+([\\w.*]+)").matcher(code);
         Set<String> lists = Set.of("java.util.ArrayList", "java.util.List", "java.util.Arrays", "java.util.Iterator");
         while (brought.find()) must(lists.contains(brought.group(1)), "the library has " + brought.group(1));
+    }
+
+    /**
+     * Methods of some sixty lines, and calls at most eight deep, those of the library too. Methods of one name in
+     * several classes are taken for one, so that what is found is never less deep than what is there.
+     */
+    private static void callsAndLengths() throws IOException {
+        String code = codeOfSource();
+        Map<String, String> bodies = new TreeMap<>();
+        Matcher method = Pattern.compile("\\b[\\w\\[\\]]+ (\\w+)\\([^()]*\\)\\s*\\{").matcher(code);
+        while (method.find()) {
+            if (method.group().matches("(?s)(else|new|return)\\b.*")) continue;
+            String body = code.substring(method.end(), endOfBlock(code, method.end()));
+            must(body.lines().count() <= 60, method.group(1) + " has some sixty lines");
+            bodies.merge(method.group(1), body, String::concat);
+        }
+        for (String face : METHODS) must(bodies.containsKey(face.replaceAll("^\\w+ |\\(.*$", "")), "the source has " + face);
+        for (String name : bodies.keySet()) {
+            int deep = depthOf(name, bodies, 0);
+            must(deep <= 8, "calls at most eight deep: " + name + " goes " + deep);
+        }
+    }
+
+    private static int endOfBlock(String code, int from) {
+        int open = 1;
+        int i = from;
+        while (i < code.length() && open > 0) {
+            open += code.charAt(i) == '{' ? 1 : code.charAt(i) == '}' ? -1 : 0;
+            i++;
+        }
+        return i;
+    }
+
+    /** How many calls stand open at once, that of the method itself among them. */
+    private static int depthOf(String name, Map<String, String> bodies, int above) {
+        if (!bodies.containsKey(name) || above > 20) return 1;
+        int deepest = 0;
+        Matcher call = Pattern.compile("(\\bnew )?\\b(\\w+)\\(").matcher(bodies.get(name));
+        while (call.find()) {
+            boolean isCall = call.group(1) == null && !Set.of("if", "for", "while", "switch", "return").contains(call.group(2));
+            if (isCall) deepest = Math.max(deepest, depthOf(call.group(2), bodies, above + 1));
+        }
+        return 1 + deepest;
     }
 
     /** All calls of a run live in one room of 7.3 million elements, of four bytes and more mostly. */
